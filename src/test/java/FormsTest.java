@@ -116,12 +116,12 @@ public final class FormsTest {
     }
 
     private static void allSyllables(Expect expect) {
-        NormalForms forms = new NormalForms();
         for (int l = 0; l < 19; l++) {
             for (int v = 0; v < 21; v++) {
                 for (int t = 0; t < 28; t++) {
                     int s = 44032 + (l * 21 + v) * 28 + t;
-                    forms.clear();
+                    // One object for each, as an object is good for 512 calls.
+                    NormalForms forms = new NormalForms();
                     forms.add(s, -1, -1, -1, -1);
                     String parts = (4352 + l) + " " + (4449 + v) + (t == 0 ? "" : " " + (4519 + t));
                     expect.same(parts, "apart " + s, Expect.formOf(forms, 2));
