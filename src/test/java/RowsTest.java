@@ -139,6 +139,14 @@ public final class RowsTest {
         expect.does("no circle of 120", () -> forms.part(last, 1, 2));
         forms.add(1000, -1, -1, -1, -1);
         expect.same("1 2", "120 rows deep", Expect.formOf(forms, 0));
+        forms.clear();
+        for (int i = 0; i < 200; i++) {
+            forms.add(1000, 1000, 1000, 1000, 1000);
+        }
+        expect.answers(2000, "1000 characters, each 120 rows deep", () -> forms.form(0));
+        expect.answers(2, "the last of them", () -> forms.at(1999));
+        expect.answers(1000, "and together again", () -> forms.form(1));
+        expect.answers(last, "the last of these", () -> forms.at(999));
     }
 
     /** Written out, these rows would give 2 to the power of 119 characters. */
