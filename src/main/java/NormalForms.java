@@ -1,5 +1,3 @@
-import java.util.Arrays;
-
 /**
  * Texts in their normal forms: characters are taken apart by tables, marks put into order, and put
  * together again; syllables by reckoning; and the text is parted into what a reader takes for one
